@@ -996,7 +996,7 @@ public final class RootTower {
             if (rule.isTold()) {
                 int weather = plan.weatherOn(day());
                 int worth = rule.worth(sizeOf(root), hollowOf(root) + more, plan.kindOf(root),
-                    softnessOf(root), weather, day(), isHung(root) ? 1 : 0);
+                    softnessOf(root), weather, day(), placeOf(root) >= 0 ? 1 : 0);
                 return within(worth, NOTES - 1);
             }
             int flesh = sizeOf(root) - hollowOf(root) - more;
@@ -1033,15 +1033,11 @@ public final class RootTower {
             setCell(SOFTNESS, root, Math.min(softnessOf(root) + much, MOST_SOFTNESS));
         }
 
-        private boolean isHung(int root) {
-            return placeOf(root) >= 0;
-        }
-
         private int growthOf(Plan plan, int root, int weather) {
             Rule rule = plan.growsRule;
             if (rule.isTold()) {
                 int worth = rule.worth(sizeOf(root), hollowOf(root), plan.kindOf(root),
-                    softnessOf(root), weather, day(), isHung(root) ? 1 : 0);
+                    softnessOf(root), weather, day(), placeOf(root) >= 0 ? 1 : 0);
                 return within(worth, 9);
             }
             return weather < 5 ? 1 : 0;
@@ -1950,24 +1946,15 @@ public final class RootTower {
                 wanted = NOT_OR_PART;
                 return true;
             }
-            wanted = OPERATOR;
-            return kind == WORD ? readValue() : readExprNumber();
-        }
-
-        private boolean readValue() {
             int value = valueWord();
-            if (value == NONE) {
+            if (kind == WORD && value == NONE) {
                 return refuse(NO_VALUE);
             }
-            rule.put(Rule.VALUE, value);
-            return true;
-        }
-
-        private boolean readExprNumber() {
-            if (!checkNumber(0, 9999)) {
+            if (kind != WORD && !checkNumber(0, 9999)) {
                 return false;
             }
-            rule.put(Rule.NUMBER, number);
+            rule.put(kind == WORD ? Rule.VALUE : Rule.NUMBER, kind == WORD ? value : number);
+            wanted = OPERATOR;
             return true;
         }
 
