@@ -272,6 +272,13 @@ public final class PromisesTest {
         faulty("note not not not not not not 1 and not not not not not not 1;", 0, -1);
         faulty("note not;", 1, 8);
         faulty("grows day weather;", 1, 10);
+        RootTower t = new RootTower();
+        is("seven", Texts.read(t, "note not not not not not not not 1;"), 2);
+        is("the next text begins anew", Texts.read(t, "note not 1 < 2;beet 9 0;"), 0);
+        is("not", t.root(0, 4), 0);
+        is("open", Texts.read(t, "note 1 < (((2 = 1 +"), 1);
+        is("the next text begins anew", Texts.read(t, "note 2 < 3;beet 9 0;"), 0);
+        is("<", t.root(0, 4), 1);
     }
 
     private static int noteBy(String rule, String root) {
@@ -549,6 +556,7 @@ public final class PromisesTest {
         is("last", t.last(), 1);
         t.take(0);
         is("none", t.last(), -1);
+        is("60", Texts.tower("beet 9 0 0;lasts 61;weather 0;tune 11;").last(), 60);
         is("a gap ahead of it", Texts.tower("beet 9 0 1;lasts 90;weather 0;tune 3;note day/7;").last(), 27);
         is("without a TUNE", new RootTower().last(), 60);
     }
@@ -594,6 +602,12 @@ public final class PromisesTest {
         is("those that never GO behind", n.order(1), 2);
         n.hang(1, 0);
         is("order", n.order(1), 1);
+        RootTower later = Texts.tower("beet 9 0;beet 9 0 1;lasts 61;weather 0;");
+        later.days(1);
+        later.hang(0, 3);
+        is("goes", later.goes(1), 60);
+        is("one that GOES on the 60th ahead of one that never GOES", later.order(0), 1);
+        is("order", later.order(1), 0);
         is("soft", n.soft(), 0);
         n.days(60);
         n.days(30);
@@ -785,6 +799,9 @@ public final class PromisesTest {
         }
         is("there are 8", t.hear(0, 0, false), -1);
         is("STATUS 2", t.count(16), 5);
+        RootTower telling = Texts.tower("turnip 9 0 0;beet 9 0 1;lasts 99;weather 0;note 5 + kind*(day=30);");
+        is("30", telling.next(0), 30);
+        is("two sets", telling.next(1), 2);
         promise = "33 eaten";
         RootTower late = Texts.tower("beet 9 0 0;lasts 99;weather 0;");
         late.hear(9, 11, false);
@@ -1024,6 +1041,28 @@ public final class PromisesTest {
         t.image();
         t.restore();
         is("in place of another one", t.count(11), 0);
+        RootTower ring = Texts.tower("beet 9 0 1;lasts 99;weather 0;");
+        for (int i = 0; i < 45; i++) {
+            ring.days(1);
+        }
+        ring.hear(4, 11, true);
+        ring.image();
+        ring.days(3);
+        ring.forget();
+        ring.hear(0, 11, false);
+        Texts.read(ring, "a text with a fault");
+        is("all stays", ring.restore(), true);
+        is("what is HEARD", ring.eaten(1), 5);
+        is("DAY", ring.count(2), 45);
+        for (int left = 39; left >= 0; left--) {
+            is("undo", ring.undo(), left);
+        }
+        is("the latest ones", ring.count(2), 5);
+        ring.restore();
+        ring.image();
+        Texts.read(ring, "beet 9 0 1;");
+        ring.days(1);
+        is("ACTS of the new one alone", ring.undo(), 0);
         is("undo", t.undo(), -1);
     }
 }
