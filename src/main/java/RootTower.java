@@ -659,18 +659,19 @@ public final class RootTower {
 
     /** An EXPR as a row of steps over a stack, so that it is worked out without recursion and without new objects. */
     private static final class Rule {
-        static final int NUMBER = 0;
-        static final int VALUE = 1;
-        static final int OPEN = 2;
-        static final int OR = 3;
-        static final int AND = 4;
-        static final int NOT = 5;
-        static final int LESS = 6;
-        static final int SAME = 7;
-        static final int PLUS = 8;
-        static final int MINUS = 9;
-        static final int TIMES = 10;
-        static final int BY = 11;
+        static final int NUMBER = 1;
+        static final int VALUE = 2;
+        /** Of a sign the tens tell how close it binds. */
+        static final int OPEN = 0;
+        static final int OR = 10;
+        static final int AND = 20;
+        static final int NOT = 30;
+        static final int LESS = 40;
+        static final int SAME = 41;
+        static final int PLUS = 50;
+        static final int MINUS = 51;
+        static final int TIMES = 60;
+        static final int BY = 61;
         /** Six EXPRs within each other, in each at most five operands that wait, and one more. */
         private static final int MOST_OPERANDS = 40;
         /** Six EXPRs within each other, in each at most five signs that wait, six NOTs and a parenthesis. */
@@ -704,7 +705,7 @@ public final class RootTower {
         /** A sign waits until its right side is whole, which one that binds no closer tells. */
         void join(int sign) {
             if (sign != NOT && sign != OPEN) {
-                putWaiting(closeness(sign));
+                putWaiting(sign / 10);
             }
             if (waits >= 0 && waits < waiting.length) {
                 waiting[waits] = sign;
@@ -713,34 +714,21 @@ public final class RootTower {
         }
 
         void close() {
-            putWaiting(closeness(OR));
+            putWaiting(OR / 10);
             if (waits > 0) {
                 waits--;
             }
         }
 
         void finish() {
-            putWaiting(closeness(OR));
+            putWaiting(OR / 10);
         }
 
+        /** Those that bind as close as that, or closer. */
         private void putWaiting(int least) {
-            while (waits > 0 && waits <= waiting.length && closeness(waiting[waits - 1]) >= least) {
+            while (waits > 0 && waits <= waiting.length && waiting[waits - 1] / 10 >= least) {
                 waits--;
                 put(waiting[waits], 0);
-            }
-        }
-
-        private static int closeness(int sign) {
-            switch (sign) {
-                case OPEN: return 0;
-                case OR: return 1;
-                case AND: return 2;
-                case NOT: return 3;
-                case LESS:
-                case SAME: return 4;
-                case PLUS:
-                case MINUS: return 5;
-                default: return 6;
             }
         }
 
