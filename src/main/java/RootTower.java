@@ -694,7 +694,7 @@ public final class RootTower {
             return many > 0;
         }
 
-        void put(int step, int operand) {
+        void putOperand(int step, int operand) {
             if (many >= 0 && many < steps.length && many < operands.length) {
                 steps[many] = step;
                 operands[many] = operand;
@@ -728,7 +728,10 @@ public final class RootTower {
         private void putWaiting(int least) {
             while (waits > 0 && waits <= waiting.length && waiting[waits - 1] / 10 >= least) {
                 waits--;
-                put(waiting[waits], 0);
+                if (many >= 0 && many < steps.length) {
+                    steps[many] = waiting[waits];
+                    many++;
+                }
             }
         }
 
@@ -1941,7 +1944,7 @@ public final class RootTower {
             if (kind != WORD && !checkNumber(0, 9999)) {
                 return false;
             }
-            rule.put(kind == WORD ? Rule.VALUE : Rule.NUMBER, kind == WORD ? value : number);
+            rule.putOperand(kind == WORD ? Rule.VALUE : Rule.NUMBER, kind == WORD ? value : number);
             wanted = OPERATOR;
             return true;
         }
