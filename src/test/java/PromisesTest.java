@@ -1,17 +1,8 @@
-import java.util.NoSuchElementException;
-
 /** The promises of the document one by one, each with answers worked out by hand: ordinary inputs, edges, wrong inputs. */
-public final class PromisesTest {
+public final class PromisesTest extends Checks {
     /** NOTES 11, 10, 7 hang, a beet of NOTE 11 is in the garden; SOFT on DAY 2. */
     private static final String FOUR =
         "turnip 10 2 0;turnip 14 3 1;swede 20 4 2;beet 9 0;weather 2 6;lasts 6;tune 11 10 7;method 1 2;";
-    private static int checks = 0;
-    private static int wrong = 0;
-    private static String promise = "";
-
-    interface Call {
-        void run();
-    }
 
     public static void main(String[] args) {
         newObject();
@@ -41,55 +32,11 @@ public final class PromisesTest {
         leadsAndMeets();
         withoutOftenSpare();
         images();
-        System.out.println("PromisesTest: " + checks + " checks, " + wrong + " wrong");
-        if (wrong != 0) {
-            System.exit(1);
-        }
-    }
-
-    private static void is(String what, long got, long want) {
-        checks++;
-        if (got != want) {
-            wrong++;
-            System.out.println(promise + ": " + what + " answered " + got + ", due is " + want);
-        }
-    }
-
-    private static void is(String what, boolean got, boolean want) {
-        is(what, got ? 1 : 0, want ? 1 : 0);
-    }
-
-    private static void throwsIt(String what, Class<?> due, Call call) {
-        checks++;
-        Class<?> got = null;
-        try {
-            call.run();
-        } catch (RuntimeException e) {
-            got = e.getClass();
-        }
-        if (got != due) {
-            wrong++;
-            System.out.println(promise + ": " + what + " threw " + got + ", due is " + due);
-        }
-    }
-
-    private static void none(String what, Call call) {
-        throwsIt(what, NoSuchElementException.class, call);
-    }
-
-    private static void bad(String what, Call call) {
-        throwsIt(what, IllegalArgumentException.class, call);
-    }
-
-    private static void faulty(String text, int code, int place) {
-        RootTower t = new RootTower();
-        is("tower of " + text, Texts.read(t, text), code);
-        is("fault of " + text, t.fault(), place);
-        is("STATUS 0 of " + text, t.count(14), code == 0 ? 0 : 1);
+        end("PromisesTest");
     }
 
     private static void newObject() {
-        promise = "1 A new object";
+        promise("1 A new object");
         RootTower t = new RootTower();
         int[] due = {0, 0, 0, 4, 20, 0, 0, 0, 0, 0, 0, 0, 0, 0, 0, 0, 0};
         for (int what = 0; what < due.length; what++) {
@@ -105,7 +52,7 @@ public final class PromisesTest {
     }
 
     private static void feed() {
-        promise = "2 feed";
+        promise("2 feed");
         RootTower t = new RootTower();
         for (int i = 1; i <= 35; i++) {
             is("feed " + i, t.feed(0x20202020, 0x20202020, 0x20202020, 0x20202020, 0x20202020), 20 * i);
@@ -127,7 +74,7 @@ public final class PromisesTest {
     }
 
     private static void tower() {
-        promise = "3 tower, 4 fault";
+        promise("3 tower, 4 fault");
         RootTower t = Texts.tower(FOUR);
         t.days(1);
         t.hear(1, 1, true);
@@ -170,7 +117,7 @@ public final class PromisesTest {
     }
 
     private static void faultsOfLines() {
-        promise = "3 tower: faults of lines";
+        promise("3 tower: faults of lines");
         faulty("turnip 0 0;", 2, 7);
         faulty("turnip 61 0;", 2, 7);
         faulty("turnip 60 20 5;", 0, -1);
@@ -226,7 +173,7 @@ public final class PromisesTest {
     }
 
     private static void faultsOfRules() {
-        promise = "3 tower: faults of rules";
+        promise("3 tower: faults of rules");
         faulty("note;", 1, 4);
         faulty("note", 1, 4);
         faulty("note sun;", 3, 5);
@@ -281,12 +228,8 @@ public final class PromisesTest {
         is("<", t.root(0, 4), 1);
     }
 
-    private static int noteBy(String rule, String root) {
-        return Texts.tower("note " + rule + ";" + root).root(0, 4);
-    }
-
     private static void rulesWork() {
-        promise = "3 tower: what rules give";
+        promise("3 tower: what rules give");
         is("from the left", noteBy("20 - 5 - 4", "beet 9 1;"), 11);
         is("from the left", noteBy("40 / 2 / 2", "beet 9 1;"), 10);
         is("* ahead of +", noteBy("1 + 2 * 3", "beet 9 1;"), 7);
@@ -328,7 +271,7 @@ public final class PromisesTest {
     }
 
     private static void counts() {
-        promise = "5 count";
+        promise("5 count");
         RootTower t = Texts.tower(FOUR);
         int[] due = {4, 3, 0, 2, 6, 3, 2, 7, 8, 0, 3200, 0, 0, 0, 0, 0, 0};
         for (int what = 0; what < due.length; what++) {
@@ -352,7 +295,7 @@ public final class PromisesTest {
     }
 
     private static void roots() {
-        promise = "6 root";
+        promise("6 root");
         RootTower t = Texts.tower("swede 30 18 4;turnip 9 0;beet 1 0;mangold 60 2 0;lasts 3;");
         int[][] due = {{1, 30, 18, 0, 9, 4, 1, 2}, {0, 9, 0, 0, 11, -1, 0, 8}, {3, 1, 0, 0, 15, -1, 0, 0}, {2, 60, 2, 0, 0, 0, 1, 18}};
         for (int root = 0; root < 4; root++) {
@@ -376,7 +319,7 @@ public final class PromisesTest {
 
     private static void plainReads() {
         RootTower t = Texts.tower(FOUR);
-        promise = "7 hook";
+        promise("7 hook");
         is("hook", t.hook(0), 0);
         is("hook", t.hook(2), 2);
         is("hook", t.hook(5), -1);
@@ -384,12 +327,12 @@ public final class PromisesTest {
         is("of one EATEN", t.hook(0), -1);
         none("6", () -> t.hook(6));
         none("-1", () -> t.hook(-1));
-        promise = "8 tune";
+        promise("8 tune");
         is("tune", t.tune(0), 11);
         is("tune", t.tune(2), 7);
         none("3", () -> t.tune(3));
         none("-1", () -> t.tune(-1));
-        promise = "9 change";
+        promise("9 change");
         is("change", t.change(0), 1);
         is("change", t.change(1), 2);
         none("2", () -> t.change(2));
@@ -397,7 +340,7 @@ public final class PromisesTest {
     }
 
     private static void days() {
-        promise = "10 days";
+        promise("10 days");
         RootTower t = Texts.tower("beet 50 0;swede 20 0 3;weather 0 4 5 9;lasts 99;");
         is("days", t.days(4), 4);
         is("grows below 5 alone", t.root(0, 1), 52);
@@ -423,7 +366,7 @@ public final class PromisesTest {
     }
 
     private static void hangAndTake() {
-        promise = "11 hang";
+        promise("11 hang");
         RootTower t = Texts.tower(FOUR);
         is("one hangs there", t.hang(3, 0), -2);
         is("itself, too", t.hang(0, 0), -2);
@@ -444,7 +387,7 @@ public final class PromisesTest {
         none("no such HOOK of one EATEN", () -> t.hang(0, 6));
         is("STATUS 1", t.count(15), 3);
         is("ACTS", t.count(11), 6);
-        promise = "12 take";
+        promise("12 take");
         is("take", t.take(3), 3);
         is("SOFTNESS stays", t.root(3, 3), 2);
         is("in THE GARDEN", t.take(3), -1);
@@ -454,7 +397,7 @@ public final class PromisesTest {
     }
 
     private static void hollowAndEat() {
-        promise = "13 hollow";
+        promise("13 hollow");
         RootTower t = Texts.tower("beet 9 0;swede 50 15 0;");
         is("hollow", t.hollow(0, 2), 12);
         is("HOLLOW", t.root(0, 2), 2);
@@ -469,7 +412,7 @@ public final class PromisesTest {
         is("it grew", t.hollow(0, 1), 15);
         is("STATUS 1", t.count(15), 5);
         none("no such ROOT", () -> t.hollow(2, 1));
-        promise = "14 eat";
+        promise("14 eat");
         is("eat", t.eat(0), true);
         is("already", t.eat(0), false);
         is("EATEN isn't HOLLOWED", t.hollow(0, 1), -1);
@@ -485,7 +428,7 @@ public final class PromisesTest {
     }
 
     private static void alterAndUndo() {
-        promise = "15 alter";
+        promise("15 alter");
         RootTower t = Texts.tower(FOUR);
         is("alter", t.alter(1, 21), 2);
         is("change", t.change(1), 21);
@@ -497,7 +440,7 @@ public final class PromisesTest {
         none("no such CHANGE", () -> t.alter(2, 1));
         none("no such CHANGE, ahead", () -> t.alter(-1, 3));
         none("no METHOD", () -> new RootTower().alter(0, 3));
-        promise = "16 undo";
+        promise("16 undo");
         is("ACTS", t.count(11), 2);
         t.hang(3, 5);
         t.hollow(3, 3);
@@ -529,7 +472,7 @@ public final class PromisesTest {
     }
 
     private static void courseOfDays() {
-        promise = "17 then";
+        promise("17 then");
         RootTower t = Texts.tower(FOUR);
         int[] due = {11, 10, 10, 10, 10, 9};
         for (int d = 0; d < due.length; d++) {
@@ -543,7 +486,7 @@ public final class PromisesTest {
         none("no such ROOT, ahead", () -> t.then(4, 61));
         bad("61", () -> t.then(3, 61));
         bad("-1", () -> t.then(3, -1));
-        promise = "19 rings";
+        promise("19 rings");
         is("rings", t.rings(0), true);
         is("rings", t.rings(1), true);
         is("rings", t.rings(2), false);
@@ -552,7 +495,7 @@ public final class PromisesTest {
         is("one for several", Texts.tower("beet 9 0 1;tune 11 11;").rings(0), true);
         is("not in THE GARDEN", Texts.tower("beet 9 0;tune 11;").rings(0), false);
         is("without a TUNE", new RootTower().rings(60), true);
-        promise = "20 last";
+        promise("20 last");
         is("last", t.last(), 1);
         t.take(0);
         is("none", t.last(), -1);
@@ -562,7 +505,7 @@ public final class PromisesTest {
     }
 
     private static void going() {
-        promise = "18 goes";
+        promise("18 goes");
         RootTower t = Texts.tower("turnip 9 0 5;swede 9 0 2;beet 9 0;mangold 9 0 0;lasts 60;weather 0;");
         t.hang(2, 1);
         t.days(10);
@@ -578,11 +521,11 @@ public final class PromisesTest {
         is("60", Texts.tower("beet 9 0 0;lasts 60;weather 0;").goes(0), 60);
         is("none in 60", Texts.tower("beet 9 0 0;lasts 61;weather 0;").goes(0), -1);
         none("no such ROOT", () -> t.goes(4));
-        promise = "21 soft";
+        promise("21 soft");
         is("of like ones the least", t.soft(), 2);
         is("none hangs", new RootTower().soft(), -1);
         is("none goes", Texts.tower("beet 9 0 0;lasts 61;weather 0;").soft(), -1);
-        promise = "22 order";
+        promise("22 order");
         is("order", t.order(0), 2);
         is("order", t.order(1), 3);
         is("order", t.order(2), 0);
@@ -616,7 +559,7 @@ public final class PromisesTest {
     }
 
     private static void rows() {
-        promise = "23 row";
+        promise("23 row");
         RootTower t = Texts.tower("turnip 9 0 5;swede 9 0 2;beet 9 0;mangold 9 0 0;method 1 2;");
         int[] due = {12, 102, 120, 210, 201, 21, 12, 102};
         for (int k = 0; k < due.length; k++) {
@@ -635,7 +578,7 @@ public final class PromisesTest {
         six.eat(5);
         is("five: bit 4 does nothing", six.row(1), 10324);
         is("no BELLS", Texts.tower("method 1;").row(5), 0);
-        promise = "24 at";
+        promise("24 at");
         is("at", t.at(0, 0), 3);
         is("at", t.at(0, 1), 1);
         is("at", t.at(0, 2), 0);
@@ -653,7 +596,7 @@ public final class PromisesTest {
     private static final String FIVE = "beet 9 0 0;beet 9 0 1;beet 9 0 2;beet 9 0 3;beet 9 0 4;";
 
     private static void lengths() {
-        promise = "25 length";
+        promise("25 length");
         RootTower t = Texts.tower(FOUR);
         is("length", t.length(), 6);
         is("no METHOD", new RootTower().length(), -1);
@@ -663,14 +606,14 @@ public final class PromisesTest {
         is("0 alone", Texts.tower(FIVE + "method 0;").length(), 1);
         is("home within the METHOD", Texts.tower(FIVE + "method 1 1 2;").length(), 2);
         is("home within the METHOD, not ahead", Texts.tower(FIVE + "method 1 2 2 1 4;").length(), 4);
-        promise = "26 isTrue";
+        promise("26 isTrue");
         is("isTrue", t.isTrue(), true);
         is("no METHOD", new RootTower().isTrue(), true);
         is("plain hunt", Texts.tower(FIVE + "method 5 10;").isTrue(), true);
         is("a row twice", Texts.tower(FIVE + "method 1 2 2 1 4;").isTrue(), false);
         is("a row that stays", Texts.tower(FIVE + "method 1 0 2;").isTrue(), false);
         is("behind LENGTH it is free", Texts.tower(FIVE + "method 1 1 2 2;").isTrue(), true);
-        promise = "27 longer";
+        promise("27 longer");
         is("none", t.longer(), -1);
         t.alter(1, 1);
         is("length", t.length(), 2);
@@ -688,7 +631,7 @@ public final class PromisesTest {
     }
 
     private static void fits() {
-        promise = "28 fit";
+        promise("28 fit");
         RootTower t = Texts.tower(FOUR);
         is("fit", t.fit(-1), 0);
         is("fit", t.fit(0), 0);
@@ -722,7 +665,7 @@ public final class PromisesTest {
     }
 
     private static void keepersAndEarliest() {
-        promise = "29 keepers";
+        promise("29 keepers");
         RootTower t = Texts.tower(FOUR);
         is("keepers", t.keepers(), 7);
         t.hang(3, 5);
@@ -733,7 +676,7 @@ public final class PromisesTest {
         is("none", t.keepers(), -1);
         is("without a TUNE", new RootTower().keepers(), 0);
         is("one for several", Texts.tower("beet 9 0 1;beet 9 0 0;tune 11 11;").keepers(), 1);
-        promise = "30 earliest";
+        promise("30 earliest");
         is("earliest", Texts.tower(FOUR).earliest(), 0);
         is("grown", Texts.tower("beet 9 0;tune 8;weather 4 5;").earliest(), 9);
         is("never", Texts.tower("beet 9 0;tune 8;weather 5;").earliest(), -1);
@@ -753,7 +696,7 @@ public final class PromisesTest {
     }
 
     private static void hearing() {
-        promise = "31 hear";
+        promise("31 hear");
         RootTower t = Texts.tower(FOUR);
         is("hear", t.hear(0, 11, true), 1);
         is("31", t.hear(31, 11, true), -1);
@@ -761,39 +704,39 @@ public final class PromisesTest {
         is("16", t.hear(0, 16, true), -1);
         is("-1", t.hear(0, -1, true), -1);
         is("STATUS 2", t.count(16), 4);
-        promise = "33 eaten";
+        promise("33 eaten");
         is("all but the one", t.eaten(0), 39);
         is("the first", t.eaten(1), 1);
         is("without", t.eaten(2), 1);
-        promise = "34 next";
+        promise("34 next");
         is("next", t.next(0), 1);
         is("next", t.next(1), 4);
-        promise = "33 eaten";
+        promise("33 eaten");
         is("hear", t.hear(1, 11, false), 2);
         is("one alone", t.eaten(0), 1);
         is("the first", t.eaten(1), 1);
         is("not without", t.eaten(2), 0);
-        promise = "34 next";
+        promise("34 next");
         is("of like ones the first", t.next(0), 0);
         is("one set", t.next(1), 1);
-        promise = "33 eaten";
+        promise("33 eaten");
         is("hear", t.hear(1, 3, true), 3);
         is("none", t.eaten(0), 0);
         is("none", t.eaten(1), -1);
         none("3", () -> t.eaten(3));
         none("-1", () -> t.eaten(-1));
-        promise = "34 next";
+        promise("34 next");
         is("none", t.next(0), -1);
         is("none", t.next(1), 0);
         none("2", () -> t.next(2));
         none("-1", () -> t.next(-1));
-        promise = "32 forget";
+        promise("32 forget");
         t.forget();
         is("forget", t.count(12), 0);
         is("eaten", t.eaten(0), 40);
         t.eat(3);
         is("EATEN now", t.eaten(0), 30);
-        promise = "31 hear";
+        promise("31 hear");
         for (int i = 1; i <= 8; i++) {
             is("hear", t.hear(30, 15, false), i);
         }
@@ -802,7 +745,7 @@ public final class PromisesTest {
         RootTower telling = Texts.tower("turnip 9 0 0;beet 9 0 1;lasts 99;weather 0;note 5 + kind*(day=30);");
         is("30", telling.next(0), 30);
         is("two sets", telling.next(1), 2);
-        promise = "33 eaten";
+        promise("33 eaten");
         RootTower late = Texts.tower("beet 9 0 0;lasts 99;weather 0;");
         late.hear(9, 11, false);
         late.hear(8, 11, true);
@@ -816,7 +759,7 @@ public final class PromisesTest {
     }
 
     private static void games() {
-        promise = "35 game";
+        promise("35 game");
         RootTower t = Texts.tower(FOUR);
         is("game", t.game(0, 1, 0), 1);
         is("first", t.game(0, 1, 1), 0);
@@ -851,7 +794,7 @@ public final class PromisesTest {
     }
 
     private static void towers() {
-        promise = "36 towers";
+        promise("36 towers");
         RootTower t = Texts.tower(FOUR);
         is("0 days", t.towers(5, 0, 0), 3);
         is("0 days", t.towers(5, 0, 1), 0);
@@ -888,7 +831,7 @@ public final class PromisesTest {
     }
 
     private static void neededAndGrown() {
-        promise = "37 needed";
+        promise("37 needed");
         RootTower t = Texts.tower(FOUR);
         is("needed", t.needed(3, 12), 2);
         is("needed", t.needed(3, 11), 0);
@@ -903,7 +846,7 @@ public final class PromisesTest {
         is("to 20 alone", Texts.tower("beet 60 0;").needed(0, 0), 0);
         is("to 20 alone", Texts.tower("beet 50 0;note hollow/2;").needed(0, 10), 20);
         is("to 20 alone", Texts.tower("beet 50 0;note hollow/3;").needed(0, 7), -1);
-        promise = "38 grown";
+        promise("38 grown");
         RootTower g = Texts.tower(FOUR);
         is("grown", g.grown(3, 11), 0);
         is("grown", g.grown(3, 10), 1);
@@ -920,7 +863,7 @@ public final class PromisesTest {
     }
 
     private static void scaleAndMouth() {
-        promise = "39 scale";
+        promise("39 scale");
         RootTower t = Texts.tower("note size;beet 3 0 0;beet 4 0 1;beet 9 0 2;beet 8 0 3;beet 15 0 5;beet 5 0;lasts 5;");
         is("scale", t.scale(0), 2);
         is("of like ones the least", t.scale(1), 3);
@@ -929,7 +872,7 @@ public final class PromisesTest {
         is("scale", t.scale(1), 3);
         none("2", () -> t.scale(2));
         none("-1", () -> t.scale(-1));
-        promise = "40 mouth";
+        promise("40 mouth");
         is("THE TENOR", t.mouth(0), 0);
         is("THE TREBLE", t.mouth(1), 4);
         t.eat(0);
@@ -947,7 +890,7 @@ public final class PromisesTest {
 
     private static void leadsAndMeets() {
         RootTower t = Texts.tower(FOUR);
-        promise = "41 leads";
+        promise("41 leads");
         is("leads", t.leads(0), 2);
         is("leads", t.leads(1), 2);
         is("leads", t.leads(2), 2);
@@ -955,7 +898,7 @@ public final class PromisesTest {
         none("no such ROOT", () -> t.leads(4));
         is("no METHOD", Texts.tower("beet 9 0 1;").leads(0), 0);
         is("ROUNDS alone", Texts.tower("beet 9 0 1;method 1;").leads(0), 1);
-        promise = "42 meets";
+        promise("42 meets");
         is("meets", t.meets(0, 1), 4);
         is("meets", t.meets(1, 0), 4);
         is("both are one", t.meets(1, 1), 0);
@@ -973,7 +916,7 @@ public final class PromisesTest {
         t.days(2);
         t.hang(2, 4);
         t.hang(3, 5);
-        promise = "43 without";
+        promise("43 without");
         is("last", t.last(), 3);
         is("without", t.without(2), 1);
         is("without", t.without(0), 3);
@@ -986,14 +929,14 @@ public final class PromisesTest {
         t.undo();
         none("no such ROOT", () -> t.without(4));
         is("without a TUNE", Texts.tower("beet 9 0 0;").without(0), 60);
-        promise = "44 often";
+        promise("44 often");
         is("often", t.often(11), 3);
         is("often", t.often(10), 3);
         is("never", t.often(3), 0);
         is("60", Texts.tower("beet 9 0 0;lasts 61;weather 0;").often(11), 60);
         none("no such NOTE", () -> t.often(16));
         none("no such NOTE", () -> t.often(-1));
-        promise = "45 spare";
+        promise("45 spare");
         is("spare", t.spare(), 0b1111);
         t.eat(0);
         t.eat(1);
@@ -1004,7 +947,7 @@ public final class PromisesTest {
     }
 
     private static void images() {
-        promise = "46 image, 47 restore";
+        promise("46 image, 47 restore");
         RootTower t = Texts.tower(FOUR);
         is("none", t.restore(), false);
         t.days(1);
