@@ -25,6 +25,8 @@ public final class ActEdgesTest extends Checks {
         actsKept();
         undoing();
         images();
+        imageOfAllActs();
+        answersBehindAChange();
         lastCall();
         end("ActEdgesTest");
     }
@@ -164,6 +166,10 @@ public final class ActEdgesTest extends Checks {
         is("or of 9 and 0", noteBy("9 or 0", beet), 1);
         is("or of 0 and 0", noteBy("0 or 0", beet), 0);
         is("or of -5 and 0", noteBy("0 - 5 or 0", beet), 1);
+        is("0 is what does not hold", noteBy("5 + (0 or 0)", beet), 5);
+        is("0 is what does not hold", noteBy("5 + (1 and 0)", beet), 5);
+        is("1 is what holds", noteBy("5 + (7 or 9)", beet), 6);
+        is("1 is what holds", noteBy("5 + (7 and 9)", beet), 6);
         is("and ahead of or", noteBy("1 or 0 and 0", beet), 1);
         is("and ahead of or", noteBy("0 and 0 or 1", beet), 1);
         is("not ahead of and", noteBy("not 1 and 0", beet), 0);
@@ -215,6 +221,8 @@ public final class ActEdgesTest extends Checks {
         is("on DAYS 1 and 2", d.root(0, 1), 12);
         is("note day", d.root(0, 4), 3);
         quote("'hung' (1, if it hangs, else 0)");
+        is("HOOK 0", noteBy("3 + hung", "beet 9 0 0;"), 4);
+        is("HOOK 5", noteBy("3 + hung", "beet 9 0 5;"), 4);
         RootTower hung = Texts.tower("note 3 + hung;grows 1 + hung;swede 9 0;beet 9 0 2;");
         row("hung", root -> hung.root(root, 4), 3, 4);
         hung.days(1);
@@ -724,6 +732,62 @@ public final class ActEdgesTest extends Checks {
         empty.days(3);
         is("without ROOTS", empty.restore(), true);
         is("DAY", empty.count(2), 0);
+    }
+
+    private static void imageOfAllActs() {
+        quote("ACTS and what is HEARD are kept as an image");
+        for (int many : new int[] {40, 45, 80}) {
+            RootTower t = Texts.tower("beet 9 0 1;lasts 99;weather 0;");
+            for (int i = 0; i < many; i++) {
+                t.days(1);
+            }
+            t.image();
+            for (int i = 0; i < 47; i++) {
+                t.hang(0, i % 2 * 5);
+            }
+            is("restore", t.restore(), true);
+            is("DAY", t.count(2), many);
+            is("ACTS", t.count(11), 40);
+            for (int left = 39; left >= 0; left--) {
+                is("undo", t.undo(), left);
+                is("DAY", t.count(2), many - 40 + left);
+                is("HOOK", t.root(0, 5), 1);
+            }
+            is("no more", t.undo(), -1);
+        }
+    }
+
+    /** What was asked ahead of a change is asked again behind it. */
+    private static void answersBehindAChange() {
+        promise("what is asked is asked of now");
+        RootTower t = Texts.tower("beet 9 0 0;beet 9 0;tune 11;lasts 4;weather 0;grows 0;");
+        isAsked(t, 3, 0, 1);
+        t.hang(1, 3);
+        isAsked(t, 3, 0, 3);
+        t.days(2);
+        isAsked(t, 1, 0, 3);
+        t.image();
+        t.hollow(0, 4);
+        isAsked(t, 1, 1, 3);
+        t.eat(1);
+        isAsked(t, -1, -2, 1);
+        is("undo", t.undo(), 3);
+        isAsked(t, 1, 1, 3);
+        is("restore", t.restore(), true);
+        isAsked(t, 1, 0, 3);
+        is("undo", t.undo(), 1);
+        isAsked(t, 3, 0, 3);
+        is("take", t.take(1), 3);
+        isAsked(t, 3, 0, 1);
+        is("tower", Texts.read(t, "beet 5 0 0;beet 11 0 1;tune 11;lasts 9;weather 0;"), 0);
+        isAsked(t, -1, 1, 3);
+    }
+
+    private static void isAsked(RootTower t, int last, int fit, int sounding) {
+        is("last", t.last(), last);
+        is("fit", t.fit(0), fit);
+        is("SOUND", t.count(7), sounding);
+        is("rings", t.rings(0), last >= 0);
     }
 
     private static void lastCall() {

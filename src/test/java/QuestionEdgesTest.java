@@ -294,6 +294,7 @@ public final class QuestionEdgesTest extends Checks {
         is("the least number", longerOf(two + "method 4;"), 1);
         is("another number than it is", longerOf(two + "method 5;"), -1);
         is("the least i", longerOf("beet 9 0 3;beet 9 0 2;beet 9 0 1;method 1 1;"), 2);
+        is("bits next to each other are no CHANGE, though 3 would be 3 long", longerOf("beet 9 0 3;beet 9 0 2;beet 9 0 1;method 1;"), -1);
         is("the last CHANGE", longerOf("beet 9 0 3;beet 9 0 2;beet 9 0 1;method 1 2 1 2 1 1;"), 502);
         quote("LONGER; NONE: none.");
         is("no METHOD", longerOf(SIX), -1);
@@ -526,6 +527,15 @@ public final class QuestionEdgesTest extends Checks {
         from.hear(9, 1, false);
         row("the first ROOT on DAY 9 alone", from::eaten, 1, 9, 0);
         row("one set", from::next, 0, 1);
+        RootTower later = Texts.tower("turnip 9 0 0;beet 11 0 1;lasts 99;weather 0;");
+        later.hear(2, 11, true);
+        later.hear(2, 10, true);
+        row("from DAY 3 on: each of two, and both", later::next, 3, 3);
+        later.hear(8, 11, true);
+        later.hear(8, 10, true);
+        row("on DAY 9 alone: each of two", later::next, 9, 2);
+        later.hear(9, 11, true);
+        row("the second one on DAY 9: one set", later::next, 0, 1);
         quote("none without any");
         RootTower all = Texts.tower("beet 9 0 0;");
         all.eat(0);
@@ -563,6 +573,18 @@ public final class QuestionEdgesTest extends Checks {
         RootTower less = Texts.tower("note 3*hollow;beet 5 4 0;beet 60 0 5;tune 3;");
         row("less than SIZE: the other one alone", what -> less.game(0, 1, what), 1, 1);
         row("the other way", what -> less.game(1, 0, what), 1, 10);
+        // whose NOTE would be the TUNE's, were it HOLLOWED by 1: it is, if it can be at all
+        String would = "note 7*(hollow=1)+7*(hollow=20)+7*(hollow=21)+15*(kind=1);tune 7;swede 1 0 5;";
+        RootTower sizeOne = Texts.tower(would + "turnip 1 0 0;");
+        row("SIZE 1 can't be", what -> sizeOne.game(1, 0, what), 1, 0);
+        row("the other way", what -> sizeOne.game(0, 1, what), 1, 0);
+        RootTower sizeTwo = Texts.tower(would + "turnip 2 0 0;");
+        row("SIZE 2 can be", what -> sizeTwo.game(1, 0, what), 1, 10);
+        row("the other way", what -> sizeTwo.game(0, 1, what), 1, 1);
+        RootTower twenty = Texts.tower(would.replace("(hollow=20)", "0") + "turnip 60 20 0;");
+        row("HOLLOW 20 can't be", what -> twenty.game(1, 0, what), 1, 0);
+        RootTower nineteen = Texts.tower(would + "turnip 60 19 0;");
+        row("HOLLOW 19 can be", what -> nineteen.game(1, 0, what), 1, 10);
         RootTower both = Texts.tower("note 4*hollow+kind;turnip 9 0 0;swede 9 0 5;tune 4 5;");
         row("both are", what -> both.game(0, 1, what), 1, 11);
         RootTower soft = Texts.tower("note 4*hollow+kind;turnip 9 0 0;swede 9 0 5;tune 4 5;lasts 1;");
@@ -599,6 +621,13 @@ public final class QuestionEdgesTest extends Checks {
         row("without a TUNE none is HOLLOWED", what -> none.game(0, 1, what), 1, 0);
         RootTower clash = Texts.tower("note 5*hollow;turnip 9 0 0;swede 9 0 5;");
         row("2 for one NOTE: one of them is", what -> clash.game(0, 1, what), 2, 1);
+        // 4 less 2 for one NOTE, or 3 less 1 for being HOLLOWED
+        RootTower exact = Texts.tower("note 5+hollow;turnip 9 0 0;swede 1 0 5;tune 5;");
+        row("2 and 1 are as much", what -> exact.game(0, 1, what), 2, 0);
+        RootTower two = Texts.tower("note 5+2*hollow;turnip 9 0 0;swede 1 0 5;tune 5;");
+        row("2 away is less", what -> two.game(0, 1, what), 1, 0);
+        RootTower between = Texts.tower("note 5+hollow;turnip 9 0 0;swede 1 0 5;tune 5 6;");
+        row("as near: HOLLOWED", what -> between.game(0, 1, what), 1, 10);
         RootTower nearest = Texts.tower("note 5*hollow+15*kind;turnip 9 0 0;swede 1 0 5;tune 15 5;");
         row("the nearest of two", what -> nearest.game(0, 1, what), 1, 10);
     }
@@ -650,7 +679,7 @@ public final class QuestionEdgesTest extends Checks {
                 }
                 for (int lasts : new int[] {soft - 1, soft, soft + 1, 99}) {
                     if (lasts >= 1 && lasts <= 99) {
-                        RootTower t = Texts.tower("beet 9 0 3;weather 9;lasts " + lasts + ";");
+                        RootTower t = Texts.tower("beet 9 0 " + lasts % 6 + ";weather 9;lasts " + lasts + ";");
                         is("seed " + seed + ", n " + n + ", lasts " + lasts, t.towers(seed, n, 0), soft < lasts ? 1 : 0);
                         is("none is EATEN", t.towers(seed, n, 1), 0);
                         is("none is in THE GARDEN", t.towers(seed, n, 2), 0);
@@ -682,6 +711,12 @@ public final class QuestionEdgesTest extends Checks {
         }
         is("none in truth", t.count(9), 1 << 4);
         quote("that one is 9 softer (99 at most), if it hangs");
+        RootTower garden = Texts.tower("beet 9 0;swede 60 0;grows soft;");
+        for (int seed = -40; seed < 40; seed++) {
+            int gone = garden.towers(seed, 9, 1);
+            int size = garden.towers(seed, 9, 2);
+            is("one in THE GARDEN is not softer, seed " + seed, gone == 0 ? size == 69 : gone == 1 ? size == 9 || size == 60 : size == 0, true);
+        }
         quote("n DAYS (0 to 60) from now on");
         RootTower day = Texts.tower("beet 9 0;grows day;lasts 99;");
         day.days(5);
@@ -782,6 +817,8 @@ public final class QuestionEdgesTest extends Checks {
         row("NOTES 0 and 15", Texts.tower("note 15*kind/3;beet 9 0 1;turnip 9 0 0;")::mouth, 1, 0);
         quote("(of like ones the least ROOT); none");
         row("of like ones the least ROOT, not HOOK", Texts.tower("beet 9 0 5;beet 9 0 0;beet 5 0 3;beet 5 0 1;")::mouth, 0, 2);
+        row("1 apart", Texts.tower("note size;beet 9 0 5;beet 8 0 0;beet 10 0 1;")::mouth, 1, 2);
+        row("1 apart", Texts.tower("note size;beet 8 0 5;beet 9 0 0;beet 7 0 1;")::mouth, 2, 1);
         RootTower t = Texts.tower("beet 9 0 0;beet 5 0 1;lasts 3;");
         noneOf("what", t::mouth, -1, 2);
         noneOf("what", new RootTower()::mouth, -1, 2);
@@ -816,6 +853,11 @@ public final class QuestionEdgesTest extends Checks {
         noneOf("other", other -> t.meets(0, other), -1, 5);
         noneOf("both", root -> t.meets(root, root), -1, 5);
         row("no METHOD", other -> Texts.tower(SIX).meets(0, other), 0, 0, 0, 0, 0, 0);
+        is("meets", t.meets(1, 2), 4);
+        t.take(2);
+        row("one that hung last, and is TAKEN", other -> t.meets(2, other), 0, 0, 0, 0, 0);
+        row("one that hung last, and is TAKEN", root -> t.meets(root, 2), 0, 0, 0, 0, 0);
+        is("it leads no more", t.leads(2), 0);
         quote("two BELLS (unlike ones) are at places next to each other");
         row("ROUNDS alone", other -> Texts.tower(SIX + "method 0;").meets(0, other), 0, 1, 0, 0, 0, 0);
         row("ROUNDS alone", other -> Texts.tower(SIX + "method 0;").meets(5, other), 0, 0, 0, 0, 1, 0);
@@ -833,6 +875,8 @@ public final class QuestionEdgesTest extends Checks {
         is("EATEN already", t.without(3), 60);
         is("nothing is EATEN", t.count(9), 8);
         noneOf("ROOT", t::without, -1, 4);
+        RootTower ten = Texts.tower("beet 5 0;beet 5 0;beet 5 0;beet 5 0;beet 5 0;beet 5 0;beet 5 0;beet 7 0 0;beet 5 0;beet 9 0 5;tune 11;lasts 99;weather 0;");
+        row("the last one of ten", ten::without, 60, 60, 60, 60, 60, 60, 60, 60, 60, -1);
         is("without a TUNE", Texts.tower("beet 9 0;").without(0), 60);
         is("0", Texts.tower("beet 9 0 0;beet 9 0 1;tune 11;lasts 1;").without(0), 0);
         is("none already", Texts.tower("beet 9 0 0;tune 12;").without(0), -1);

@@ -25,6 +25,8 @@ public final class TextEdgesTest extends Checks {
         wordsWhereAPartMustStand();
         hooksTaken();
         toldTwice();
+        allAnew();
+        readAnewBehindAFault();
         end("TextEdgesTest");
     }
 
@@ -78,12 +80,33 @@ public final class TextEdgesTest extends Checks {
         fine("note not(size)and(day)or(hung);");
         fine("turnip5 0;tune1;note1or2;");
         is("a .. z", Texts.tower("note size<hollow+kind*weather;beet 9 0;").root(0, 4), 1);
+        letterByLetter();
         for (int c = 0; c < 256; c++) {
             boolean letter = c >= 'a' && c <= 'z';
             boolean digit = c >= '0' && c <= '9';
             boolean blank = c == 32 || c == 10;
             int place = letter ? 0 : 5;
             faulty("lasts" + (char) c + "1;", digit || blank ? 0 : 1, digit || blank ? -1 : place);
+        }
+    }
+
+    /** Each word with one letter that is another: a word still, but no longer that one. */
+    private static void letterByLetter() {
+        for (String line : LINES) {
+            int end = line.indexOf(' ');
+            for (int i = 0; i < end; i++) {
+                fault(1, "^" + line.substring(0, i) + "q" + line.substring(i + 1));
+            }
+        }
+        for (String value : new String[] {"size", "hollow", "kind", "soft", "weather", "day", "hung", "not"}) {
+            for (int i = 0; i < value.length(); i++) {
+                fault(3, "note ^" + value.substring(0, i) + "q" + value.substring(i + 1) + " 1;");
+            }
+        }
+        for (String operator : new String[] {"or", "and"}) {
+            for (int i = 0; i < operator.length(); i++) {
+                fault(1, "note 1 ^" + operator.substring(0, i) + "q" + operator.substring(i + 1) + " 1;");
+            }
         }
     }
 
@@ -369,6 +392,11 @@ public final class TextEdgesTest extends Checks {
         fault(1, "note 1 < (2 < 3) ^< 4;");
         fault(1, "note (1 < 2) < 3 ^= 4;");
         fault(1, "note (1)^);");
+        fine("note (1 < 2 and 3 < 4 or 5 = 6);");
+        fine("note ((1 < 2 and 3 < 4) = (5 < 6 or 7 < 8) and 9 = 9);");
+        fault(1, "note ((1 < 2 and 3 < 4) = 5 ^= 6);");
+        fault(1, "note (1 < 2 and 3 < 4 ^< 5);");
+        fault(1, "note 1 < (2 and 3 < 4) ^< 5;");
     }
 
     private static String nested(int parentheses, String inner) {
@@ -495,5 +523,71 @@ public final class TextEdgesTest extends Checks {
         fault(5, "weather 1;lasts 1;tune 1;method 1;note 1;grows 1;^note 1;");
         fine("note weather;weather 1;grows weather;");
         fine("note 1;grows 1;");
+    }
+
+    private static final String RICH = "turnip 30 3 0;swede 40 4 1;beet 50 5 2;weather 9 8 7;lasts 5;tune 1 2 3;method 1 2 4;note size + 1;grows 9;";
+
+    private static void isBare(RootTower t) {
+        row("all as without", t::count, 1, 0, 0, 4, 20, 0, 0, 0, 1, 0, 0, 0, 0, 0);
+        row("a ROOT alone", what -> t.root(0, what), 0, 9, 0, 0, 11, -1, 0, 8);
+        row("no HOOK", t::hook, -1, -1, -1, -1, -1, -1);
+        noneOf("no second ROOT", root -> t.root(root, 0), 1);
+        is("the TUNE is none", t.rings(0), true);
+        is("nothing to fit", t.fit(-1), 0);
+        is("NOTE as without", t.then(0, 0), 11);
+        is("GROWS as without", t.then(0, 3), 9);
+        is("none is SOFT", t.earliest(), 0);
+    }
+
+    private static void allAnew() {
+        quote("are a TOWER, all anew");
+        for (int times = 1; times <= 3; times++) {
+            RootTower t = new RootTower();
+            for (int i = 0; i < times; i++) {
+                is("much", Texts.read(t, RICH), 0);
+                t.days(30);
+                is("all of it is asked", t.last(), -1);
+                is("all of it is asked", t.fit(-1), -2);
+            }
+            is("a bare one", Texts.read(t, "turnip 9 0;"), 0);
+            isBare(t);
+            is("much again", Texts.read(t, RICH), 0);
+            row("much again", t::count, 3, 3, 0, 9, 5, 3, 3, 7, 0, 0, 1 << 15);
+            row("SOFTNESS", root -> t.root(root, 3), 0, 0, 0);
+            is("a FAULT behind much", Texts.read(t, RICH + "sun"), 1);
+            is("a bare one", Texts.read(t, "turnip 9 0;"), 0);
+            isBare(t);
+        }
+        RootTower started = new RootTower();
+        started.days(7);
+        is("a bare one", Texts.read(started, "turnip 9 0;"), 0);
+        isBare(started);
+    }
+
+    private static void readAnewBehindAFault() {
+        quote("The tape's first n bytes (it is empty then) are a TOWER, all anew: 0, or the FAULT (all stays).");
+        String[] faulty = {"note ((((1", "note 1 < 2 <", "note not not not not not not not", "note 1 + 2 * (3 < 4 or", "grows (((((1 = 1", "tune 1 2 3 4 5 6 7 8 9",
+            "weather 1;lasts 2;tune 3;method 4;note 5;grows 6;lasts", "beet 5 0 0;beet 5 0 1;beet 5 0 0", "turnip 12345", "turnip"};
+        String[] fine = {"note (((((1)))));", "note 1 < 2;", "note not not not not not not 1;", "grows 1;note 2;", "turnip 5 0 0;swede 5 0 1;",
+            "tune 1 2 3 4 5 6 7 8;", "weather 0 1 2 3 4 5 6 7 8 9;lasts 1;method 1;", "turnip 5 0;".repeat(10), ""};
+        RootTower asked = new RootTower();
+        int calls = 0;
+        for (String first : faulty) {
+            for (String then : fine) {
+                calls += 24;
+                asked = calls > 512 ? new RootTower() : asked;
+                calls = calls > 512 ? 24 : calls;
+                is("FAULT of " + first, Texts.read(asked, first) > 0, true);
+                is(then + " behind " + first, Texts.read(asked, then), 0);
+                is("fault", asked.fault(), -1);
+            }
+        }
+        RootTower t = new RootTower();
+        is("FAULT", Texts.read(t, "note 7 + 8 * ("), 1);
+        is("fine", Texts.read(t, "note 3;turnip 9 0;"), 0);
+        is("NOTE", t.root(0, 4), 3);
+        is("FAULT", Texts.read(t, "note 7;grows 3;beet 9"), 1);
+        is("fine", Texts.read(t, "turnip 9 0;"), 0);
+        is("NOTE as without", t.root(0, 4), 11);
     }
 }
