@@ -27,6 +27,7 @@ public final class ActEdgesTest extends Checks {
         images();
         imageOfAllActs();
         answersBehindAChange();
+        allTen();
         lastCall();
         end("ActEdgesTest");
     }
@@ -47,6 +48,9 @@ public final class ActEdgesTest extends Checks {
         noneOf("alter", i -> t.alter(i, 1), 0);
         is("undo", t.undo(), -1);
         is("restore", t.restore(), false);
+        is("days", t.days(3), 3);
+        is("undo", t.undo(), 0);
+        is("DAY", t.count(2), 0);
         is("the tape", t.count(13), 0);
         is("an empty TEXT", t.tower(0), 0);
         bad("no byte is there", () -> t.tower(1));
@@ -174,6 +178,11 @@ public final class ActEdgesTest extends Checks {
         is("and ahead of or", noteBy("0 and 0 or 1", beet), 1);
         is("not ahead of and", noteBy("not 1 and 0", beet), 0);
         is("a test ahead of not", noteBy("not 1 = 0", beet), 1);
+        is("a test ahead of not", noteBy("not 2 < 1", beet), 1);
+        is("a test ahead of not", noteBy("not 1 < 2", beet), 0);
+        is("a test ahead of not", noteBy("not 2 = 3", beet), 1);
+        is("a sum ahead of not", noteBy("not 1 - 1", beet), 1);
+        is("a product ahead of not", noteBy("not 5 * 0", beet), 1);
         is("a sum ahead of a test", noteBy("1 + 1 = 2", beet), 1);
         is("a product ahead of a sum", noteBy("1 + 2 * 3 - 4 / 2", beet), 5);
         is("parentheses ahead of all", noteBy("2 * (3 + (1 or 0))", beet), 8);
@@ -788,6 +797,26 @@ public final class ActEdgesTest extends Checks {
         is("fit", t.fit(0), fit);
         is("SOUND", t.count(7), sounding);
         is("rings", t.rings(0), last >= 0);
+    }
+
+    /** All that a TOWER can have at once: DAYS change the one that they should, and no other. */
+    private static void allTen() {
+        quote("A ROOT hangs on a HOOK, or it is in THE GARDEN, or EATEN.");
+        RootTower t = Texts.tower("beet 9 8 5;" + "turnip 9 7 0;turnip 9 6 1;turnip 9 5 2;turnip 9 4 3;turnip 9 3 4;swede 9 2;swede 9 1;swede 9 0;mangold 9 5;"
+            + "weather 0 1 2 3 4 5 6 7 8 9;lasts 99;tune 1 2 3 4 5 6 7 8;method 1 2 4 5 8 9 10 16 17 18 20 21;");
+        t.days(10);
+        t.eat(9);
+        t.days(10);
+        row("KIND", root -> t.root(root, 0), 3, 0, 0, 0, 0, 0, 1, 1, 1, 2);
+        row("SIZE", root -> t.root(root, 1), 9, 9, 9, 9, 9, 9, 19, 19, 19, 14);
+        row("HOLLOW", root -> t.root(root, 2), 8, 7, 6, 5, 4, 3, 2, 1, 0, 5);
+        row("SOFTNESS", root -> t.root(root, 3), 60, 60, 60, 60, 60, 60, 0, 0, 0, 0);
+        row("HOOK", root -> t.root(root, 5), 5, 0, 1, 2, 3, 4, -1, -1, -1, -2);
+        row("change", t::change, 1, 2, 4, 5, 8, 9, 10, 16, 17, 18, 20, 21);
+        row("tune", t::tune, 1, 2, 3, 4, 5, 6, 7, 8);
+        is("SOUND", t.count(7), 0b0000111111);
+        is("in THE GARDEN", t.count(8), 0b0111000000);
+        is("EATEN", t.count(9), 0b1000000000);
     }
 
     private static void lastCall() {

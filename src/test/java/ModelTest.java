@@ -1,111 +1,65 @@
-import java.lang.reflect.InvocationTargetException;
 import java.lang.reflect.Method;
-import java.util.ArrayList;
-import java.util.Arrays;
-import java.util.Comparator;
 import java.util.List;
 import java.util.Random;
 
 /** Random runs (from fixed seeds) of every call, on a RootTower and on the PlainModel: each answer must be the same. */
 public final class ModelTest {
-    private static int wrong = 0;
-    private static int calls = 0;
+    private static final List<Method> FACE = Twin.face();
 
-    public static void main(String[] args) throws Exception {
+    public static void main(String[] args) throws ReflectiveOperationException {
         int runs = args.length > 0 ? Integer.parseInt(args[0]) : 4000;
         int from = args.length > 1 ? Integer.parseInt(args[1]) : 0;
-        for (int i = from; i < from + runs && wrong < 20; i++) {
+        for (int i = from; i < from + runs && Twin.wrong() < 20; i++) {
             run(i);
             readTexts(i);
         }
-        System.out.println("ModelTest: " + runs + " runs, " + calls + " calls, " + wrong + " wrong");
-        if (wrong != 0) {
-            System.exit(1);
-        }
+        Twin.end("ModelTest");
     }
 
-    private static List<Method> face() {
-        List<Method> all = new ArrayList<>();
-        for (Method m : RootTower.class.getDeclaredMethods()) {
-            if (java.lang.reflect.Modifier.isPublic(m.getModifiers())) {
-                all.add(m);
-            }
-        }
-        all.sort(Comparator.comparing(Method::getName));
-        return all;
-    }
-
-    private static void run(int seed) throws Exception {
+    private static void run(int seed) throws ReflectiveOperationException {
         Random random = new Random(seed);
-        RootTower tower = new RootTower();
-        PlainModel model = new PlainModel();
-        List<Method> face = face();
-        List<String> log = new ArrayList<>();
+        Twin twin = new Twin("seed " + seed);
         int texts = 1 + random.nextInt(3);
         for (int t = 0; t < texts; t++) {
             String text = Texts.make(random);
             if (random.nextInt(3) == 0) {
                 text = Texts.spoil(text, random);
             }
-            if (text.length() > 700) {
-                text = text.substring(0, 700);
+            if (twin.taped() > 0) {
+                twin.call("tower", twin.taped());
             }
-            if (tower.count(13) > 0) {
-                check(tower, model, named(face, "tower"), new Object[] {tower.count(13)}, log, seed);
-            }
-            log.add("text " + text.replace("\n", "\\n"));
-            List<Object> words = Texts.words(text);
-            for (int i = 0; i < words.size(); i += 5) {
-                check(tower, model, named(face, "feed"), words.subList(i, i + 5).toArray(), log, seed);
-            }
-            check(tower, model, named(face, "tower"), new Object[] {text.length()}, log, seed);
-            check(tower, model, named(face, "fault"), new Object[0], log, seed);
+            twin.read(cut(text));
             int many = random.nextInt(120);
             int actsOf = random.nextInt(8) == 0 ? 9 : 3;
             for (int i = 0; i < many; i++) {
                 Method m = random.nextInt(10) < actsOf
-                    ? named(face, ACTS[random.nextInt(ACTS.length)])
-                    : face.get(random.nextInt(face.size()));
+                    ? Twin.named(ACTS[random.nextInt(ACTS.length)])
+                    : FACE.get(random.nextInt(FACE.size()));
                 if (!m.getName().equals("tower") || random.nextInt(60) == 0) {
-                    check(tower, model, m, arguments(m, random), log, seed);
+                    twin.call(m, arguments(m, random));
                 }
             }
         }
     }
 
+    private static String cut(String text) {
+        return text.length() > 700 ? text.substring(0, 700) : text;
+    }
+
     /** Texts alone, most of them spoilt: the FAULT and its place. */
-    private static void readTexts(int seed) throws Exception {
+    private static void readTexts(int seed) throws ReflectiveOperationException {
         Random random = new Random(~seed);
-        RootTower tower = new RootTower();
-        PlainModel model = new PlainModel();
-        List<Method> face = face();
+        Twin twin = new Twin("texts of seed " + seed);
         for (int t = 0; t < 10; t++) {
-            String text = Texts.spoil(random.nextInt(3) == 0 ? "note " + Texts.expr(random, 0) + ";" : Texts.make(random), random);
-            text = text.length() > 700 ? text.substring(0, 700) : text;
-            List<String> log = new ArrayList<>(List.of("text " + text.replace("\n", "\\n")));
-            List<Object> words = Texts.words(text);
-            for (int i = 0; i < words.size(); i += 5) {
-                check(tower, model, named(face, "feed"), words.subList(i, i + 5).toArray(), log, seed);
-            }
-            check(tower, model, named(face, "tower"), new Object[] {text.length()}, log, seed);
-            check(tower, model, named(face, "fault"), new Object[0], log, seed);
-            check(tower, model, named(face, "root"), new Object[] {0, 4}, log, seed);
+            twin.read(cut(Texts.spoil(random.nextInt(3) == 0 ? "note " + Texts.expr(random, 0) + ";" : Texts.make(random), random)));
+            twin.call("root", 0, 4);
         }
     }
 
     private static final String[] ACTS = {"days", "days", "hang", "hang", "hang", "hang", "take", "hollow", "hollow", "alter", "alter",
         "undo", "undo", "eat", "hear", "hear"};
 
-    private static Method named(List<Method> face, String name) {
-        for (Method m : face) {
-            if (m.getName().equals(name)) {
-                return m;
-            }
-        }
-        throw new IllegalStateException(name);
-    }
-
-    private static Object[] arguments(Method m, Random random) {
+    static Object[] arguments(Method m, Random random) {
         Class<?>[] types = m.getParameterTypes();
         Object[] all = new Object[types.length];
         for (int i = 0; i < types.length; i++) {
@@ -142,29 +96,6 @@ public final class ModelTest {
             case "towers0": case "feed0": case "feed1": case "feed2": case "feed3": case "feed4": return random.nextInt();
             case "tower0": return random.nextInt(30) - 2;
             default: return random.nextInt(random.nextInt(5) == 0 ? 11 : 5);
-        }
-    }
-
-    private static void check(RootTower tower, PlainModel model, Method m, Object[] args, List<String> log, int seed) throws Exception {
-        calls++;
-        Method same = PlainModel.class.getDeclaredMethod(m.getName(), m.getParameterTypes());
-        String got = answer(m, tower, args);
-        String due = answer(same, model, args);
-        log.add(m.getName() + Arrays.toString(args) + " = " + due);
-        if (!got.equals(due)) {
-            wrong++;
-            System.out.println("seed " + seed + ": " + m.getName() + Arrays.toString(args) + " answered " + got + ", due is " + due);
-            if (wrong == 1) {
-                System.out.println(String.join("\n", log));
-            }
-        }
-    }
-
-    private static String answer(Method m, Object on, Object[] args) throws Exception {
-        try {
-            return String.valueOf(m.invoke(on, args));
-        } catch (InvocationTargetException e) {
-            return "throws." + e.getCause().getClass().getSimpleName();
         }
     }
 }

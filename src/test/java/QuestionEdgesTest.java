@@ -359,6 +359,11 @@ public final class QuestionEdgesTest extends Checks {
         row("the last eight", ten::fit, 2, 3, 4, 5, 6, 7, 8, 9);
         is("no more can be spared", ten.eat(9), true);
         is("no more can be spared", ten.fit(-1), -2);
+        RootTower first = Texts.tower("note size;tune 3 8;beet 9 3;" + "beet 15 0;".repeat(7) + "beet 3 0;beet 8 0;method 0;");
+        row("the last two of ten", first::fit, 8, 9);
+        RootTower last = Texts.tower("note size;grows 0;tune 7 12;beet 12 0;" + "beet 20 0;".repeat(8) + "beet 5 0;");
+        last.days(12);
+        is("none of ten has the first NOTE", last.fit(-1), -2);
     }
 
     private static void keepers() {

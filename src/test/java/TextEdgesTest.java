@@ -558,6 +558,15 @@ public final class TextEdgesTest extends Checks {
             is("a bare one", Texts.read(t, "turnip 9 0;"), 0);
             isBare(t);
         }
+        RootTower rules = new RootTower();
+        for (String rule : new String[] {"1 + 2 * 3 - 4 < 5 or 6 and 7", "not not 4", "not 0", "5", "7",
+            "2 + (not 0)", "5 + 4 + 3", "5"}) {
+            is("a rule", Texts.read(rules, "beet 9 0;note " + rule + ";grows " + rule + ";"), 0);
+            int note = noteBy(rule, "beet 9 0;");
+            is("nothing of a longer one is left", rules.root(0, 4), note);
+            is("nothing of a longer one is left", rules.days(1), 1);
+            is("nothing of a longer one is left", rules.root(0, 1), 9 + Math.min(note, 9));
+        }
         RootTower started = new RootTower();
         started.days(7);
         is("a bare one", Texts.read(started, "turnip 9 0;"), 0);

@@ -99,6 +99,26 @@ final class Texts {
         return String.join(random.nextInt(2) == 0 ? "" : "\n", lines);
     }
 
+    /** As much as a TEXT can tell: ten ROOTS of which six hang, and all else as often as it may be. */
+    static String full(Random random) {
+        List<Integer> hooks = new ArrayList<>(List.of(0, 1, 2, 3, 4, 5, 6, 7, 8, 9));
+        Collections.shuffle(hooks, random);
+        StringBuilder text = new StringBuilder();
+        int around = 6 + random.nextInt(20);
+        for (int hook : hooks) {
+            int size = Math.max(1, around + random.nextInt(9) - 4);
+            text.append(KINDS[random.nextInt(4)]).append(' ').append(size).append(' ').append(random.nextInt(Math.min(size, 5)));
+            text.append(hook < 6 ? " " + hook + ";" : ";");
+        }
+        text.append("weather").append(row(random, 10, 10)).append(";lasts ").append(20 + random.nextInt(80));
+        text.append(";tune").append(row(random, random.nextBoolean() ? 8 : 2, 16)).append(";method");
+        for (int i = 0; i < 12; i++) {
+            text.append(' ').append(CHANGES[random.nextInt(CHANGES.length)]);
+        }
+        text.append(random.nextInt(3) == 0 ? ";" : random.nextBoolean() ? ";note size;" : ";note " + noteSum(random) + ";");
+        return text + (random.nextBoolean() ? "grows 0;" : "");
+    }
+
     private static String tuneOf(List<Integer> notes, Random random) {
         StringBuilder line = new StringBuilder("tune");
         int many = 1 + random.nextInt(random.nextInt(3) == 0 ? 8 : 3);
